@@ -200,7 +200,8 @@ public final class HillHouses {
         if (!now.isHouse(house) || !isUpTo(n, AHEAD_MOST) || !isUpTo(what, 1)) {
             return BAD;
         }
-        foretell(n);
+        trial.takeFrom(now);
+        rollTrial(n);
         return what == 0 ? trial.laneOf(house) : trial.yardOf(house);
     }
 
@@ -222,7 +223,8 @@ public final class HillHouses {
         if (!isPair(a, b) || !isUpTo(n, AHEAD_MOST)) {
             return BAD;
         }
-        foretell(n);
+        trial.takeFrom(now);
+        rollTrial(n);
         return trial.areBeside(a, b) ? 1 : 0;
     }
 
@@ -401,11 +403,6 @@ public final class HillHouses {
         int was = now.isChocked(house) ? 1 : 0;
         now.putChock(house, is == 1);
         return was;
-    }
-
-    private void foretell(int n) {
-        trial.takeFrom(now);
-        rollTrial(n);
     }
 
     private void rollTrial(int n) {
@@ -755,9 +752,11 @@ public final class HillHouses {
         private final int[] laneOf = new int[HOUSES_MOST];
         private final int[] yardOf = new int[HOUSES_MOST];
         private final int[] lentOf = new int[HOUSES_MOST];
-        // Of the winter that rolls: the yards as it began, the houses in the order of their turns.
+        // Of the winter that rolls: the yards as it began, the houses in the order of their turns, and what has
+        // something in it (yards of each lane, as bits).
         private final int[] begunOf = new int[HOUSES_MOST];
         private final int[] turns = new int[HOUSES_MOST];
+        private final int[] taken = new int[LANES_MOST];
 
         boolean stands() {
             return lanes > 0;
@@ -901,7 +900,7 @@ public final class HillHouses {
         }
 
         void addHouse(int kind, int heavy, int lane, int yard) {
-            if (houses >= HOUSES_MOST) {
+            if (houses >= HOUSES_MOST || !isLane(lane) || !isYard(yard)) {
                 return;
             }
             kindOf[houses] = kind;
@@ -1014,15 +1013,15 @@ public final class HillHouses {
         }
 
         private void lineUp() {
+            System.arraycopy(stones, 0, taken, 0, LANES_MOST);
             for (int h = 0; h < houses; h++) {
-                begunOf[h] = yardOf[h];
-            }
-            for (int h = 0; h < houses; h++) {
-                int turn = 0;
-                for (int other = 0; other < houses; other++) {
-                    if (begunOf[other] > begunOf[h] || begunOf[other] == begunOf[h] && other < h) {
-                        turn++;
-                    }
+                int yard = yardOf[h];
+                begunOf[h] = yard;
+                taken[laneOf[h]] |= 1 << yard;
+                int turn = h;
+                while (turn > 0 && begunOf[turns[turn - 1]] < yard) {
+                    turns[turn] = turns[turn - 1];
+                    turn--;
                 }
                 turns[turn] = h;
             }
@@ -1052,12 +1051,14 @@ public final class HillHouses {
         }
 
         private boolean roll(int house) {
+            int lane = laneOf[house];
             int steps = kindOf[house] == INN ? 2 : 1;
             boolean isRolled = false;
             for (int step = 0; step < steps; step++) {
-                int below = yardOf[house] + 1;
-                if (isYard(below) && findAt(laneOf[house], below) == NOTHING) {
-                    yardOf[house] = below;
+                int yard = yardOf[house];
+                if (yard + 1 < deep && (taken[lane] >> yard + 1 & 1) == 0) {
+                    taken[lane] ^= 3 << yard;
+                    yardOf[house] = yard + 1;
                     isRolled = true;
                 }
             }
