@@ -471,8 +471,9 @@ public final class HillHouses {
             present |= 1 << row;
             lanes[row] = lane;
             sizes[row] = n;
-            int from = row * ITEMS_MOST;
-            Arrays.fill(items, from, from + n, 0);
+            for (int i = 0; i < n; i++) {
+                items[row * ITEMS_MOST + i] = 0;
+            }
         }
 
         int put(int row, int i, int v) {

@@ -12,6 +12,7 @@ public final class AskedTest {
         traceStays();
         countsAreTold();
         statusIsOfTheLatest();
+        readmeHolds();
         Check.end("AskedTest");
     }
 
@@ -163,5 +164,18 @@ public final class AskedTest {
         Check.due("status", x.status(), 5);
         Check.due("chocks", x.chocks(0, 0, 1), 1);
         Check.due("status", x.status(), 0);
+    }
+
+    private static void readmeHolds() {
+        HillHouses hill = new HillHouses();
+        for (byte b : "slope 2 9; stone 0 8; house inn 0 1 5; house church 1 0 12;".getBytes()) {
+            hill.feed(b, 1);
+        }
+        Check.due("hill()", hill.hill(), 2);
+        Check.due("winter()", hill.winter(), 3);
+        Check.due("house(0, 1)", hill.house(0, 1), 3);
+        Check.due("ahead(1, 4, 1)", hill.ahead(1, 4, 1), 3);
+        Check.due("meet(0, 1, 5, 0)", hill.meet(0, 1, 5, 0), 5);
+        Check.due("undo()", hill.undo(), 0);
     }
 }

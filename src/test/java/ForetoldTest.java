@@ -10,6 +10,7 @@ public final class ForetoldTest {
         besideIsForetold();
         meetIsForetold();
         meetIsLeast();
+        meetTakesAllChocks();
         meetIsRefused();
         streetsStand();
         stoodIsFound();
@@ -70,6 +71,14 @@ public final class ForetoldTest {
         // A barn beside a chocked hut, which rolls no more.
         HillHouses z = Check.hillOf("slope 2 20;house barn 0 0 1;house hut 1 0 1;");
         Check.due("barn", z.stream(0), 20);
+        // A barn that a church keeps in every even winter, from an odd one on.
+        HillHouses w = Check.hillOf("slope 2 20;house church 0 0 1;house barn 1 0 1;");
+        Check.due("barn behind a church", w.stream(1), 38);
+        w.chock(0, 1);
+        w.winter();
+        w.chock(0, 0);
+        Check.due("church from an odd winter", w.stream(0), 38);
+        Check.due("barn behind a church from an odd winter", w.stream(1), 39);
     }
 
     private static void besideIsForetold() {
@@ -131,6 +140,15 @@ public final class ForetoldTest {
         meet(y, 0, 1, 5, 2, 1);
         HillHouses z = Check.hillOf("slope 2 20;house inn 0 3 1;house hut 1 4 1;");
         meet(z, 0, 1, 6, 4, 3);
+    }
+
+    private static void meetTakesAllChocks() {
+        // Either is farther down for good as soon as it rolls.
+        HillHouses x = Check.hillOf("slope 2 20;stone 1 2;house inn 0 0 1;house hut 1 0 1;");
+        meet(x, 0, 1, 1, 2, 1);
+        meet(x, 0, 1, 4, 8, 4);
+        meet(x, 0, 1, 20, 40, 20);
+        meet(x, 1, 0, 20, 40, 20);
     }
 
     private static void meetIsRefused() {
@@ -214,6 +232,9 @@ public final class ForetoldTest {
         Check.due("houses 0's and 1's", x.stolen(0), 3);
         Check.rowOf(x, 0, 0, 1, 2);
         Check.due("none", x.stolen(0), 0);
+        x.stolen(7);
+        Check.due("a set", x.stolen(0), 0);
+        Check.due("status of a set", x.status(), 0);
         // House 2's makes no other yards, so it is not of the least set.
         Check.rowOf(x, 1, 0, 2, 2, 77);
         Check.due("items behind count for nothing", x.stolen(1), 2);

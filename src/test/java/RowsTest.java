@@ -155,6 +155,10 @@ public final class RowsTest {
         Check.due("status", x.status(), 0);
         Check.due("drop(5) again", x.drop(5), Check.NULL);
         Check.due("status", x.status(), 1);
+        x.row(6, 0, 2);
+        x.set(6, 2, 0);
+        Check.due("drop(6)", x.drop(6), 2);
+        Check.due("status of a drop", x.status(), 0);
         Check.due("count(0)", x.count(0), 0);
         for (int row : NO_ROW) {
             Check.due("drop of no row", x.drop(row), Check.BAD);

@@ -80,6 +80,18 @@ public final class TapeTest {
         bad("  \n", 3, 1);
         bad("slop", 0, 1);
         bad("slopex 1 4;", 0, 1);
+        bad("slopez 1 4;", 0, 1);
+        bad("slopea 1 4;", 0, 1);
+        bad("tlope 1 4;", 0, 1);
+        bad("slope 1 4;atone 0 1;", 10, 1);
+        bad("slope 1 4;mouse hut 0 1 1;", 10, 1);
+        bad("slope 1 4;house nut 0 1 1;", 16, 1);
+        bad("slope 1 4;house ann 0 1 1;", 16, 1);
+        bad("slope 1 4;house huts 0 1 1;", 16, 1);
+        bad("slope 1 4{", 9, 1);
+        bad("slope` 1 4;", 5, 1);
+        bad("slope 1/4;", 7, 1);
+        bad("slope 1:4;", 7, 1);
         bad("slop e 1 4;", 0, 1);
         bad(" Slope 1 4;", 1, 1);
         bad("slope 1 4", 9, 1);
@@ -171,6 +183,8 @@ public final class TapeTest {
         x.image(0);
         x.row(2, 0, 3);
         Check.due("ask", x.ask(1, 1), -996);
+        // What was tried out ahead leaves nothing in the hill that is read.
+        Check.due("stream", x.stream(1), Check.NONE);
         Check.due("hill", Check.read(x, "slope 1 4;house church 0 0 9;house barn 0 2 9;"), 2);
         Check.due("the latest fault stays", x.fault(), 1);
         Check.due("stones", x.count(2), 0);

@@ -47,6 +47,14 @@ public final class WintersTest {
         HillHouses x = Check.hillOf("slope 1 9;house hut 0 0 1;house hut 0 1 1;house hut 0 2 1;");
         Check.due("a file of huts", x.winter(), 7);
         Check.yards("file", x, 1, 2, 3);
+        HillHouses w = Check.hillOf("slope 1 9;house hut 0 2 1;house hut 0 5 1;house hut 0 0 1;house hut 0 4 1;house hut 0 1 1;"
+            + "house hut 0 3 1;");
+        Check.due("six huts, not by numbers", w.winter(), 63);
+        Check.yards("six huts", w, 3, 6, 1, 5, 2, 4);
+        Check.due("six huts", w.winter(), 63);
+        Check.due("six huts", w.winter(), 63);
+        Check.due("all are down", w.winter(), 0);
+        Check.yards("six huts", w, 5, 8, 3, 7, 4, 6);
         // The hut below has not rolled yet when none is ahead of it: the church that waits is in the way.
         HillHouses y = Check.hillOf("slope 1 9;house inn 0 2 1;house church 0 4 1;");
         Check.due("winter 0", y.winter(), 3);
@@ -238,6 +246,17 @@ public final class WintersTest {
         Check.yards("all undone", x, 0, 3, 8);
         Check.due("count(3)", x.count(3), 0);
         Check.due("undo", x.undo(), Check.STATE);
+        // Hands that were lent ahead of an act that is undone stay lent.
+        x.haul(2, 1);
+        x.winter();
+        x.haul(1, 1);
+        lent(x, 4, 1, 2);
+        Check.due("undo", x.undo(), 2);
+        lent(x, 1, 1, 0);
+        Check.due("undo", x.undo(), 1);
+        lent(x, 1, 1, 0);
+        Check.due("undo", x.undo(), 0);
+        lent(x, 0, 0, 0);
         // Refusals and questions are no acts.
         x.haul(0, 0);
         x.chock(7, 1);
