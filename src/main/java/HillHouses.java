@@ -971,7 +971,7 @@ public final class HillHouses {
             }
             int each = heavyOf(house) / others;
             int more = heavyOf(house) % others;
-            for (int h = 0; h < houses; h++) {
+            for (int h = 0; h < houses && h < HOUSES_MOST; h++) {
                 if (h == house) {
                     continue;
                 }
@@ -1003,7 +1003,7 @@ public final class HillHouses {
         int rollAll() {
             lineUp();
             int rolled = 0;
-            for (int turn = 0; turn < houses; turn++) {
+            for (int turn = 0; turn < houses && turn < HOUSES_MOST; turn++) {
                 int house = turns[turn];
                 if (mayRoll(house) && roll(house)) {
                     rolled |= 1 << house;
@@ -1015,17 +1015,23 @@ public final class HillHouses {
 
         private void lineUp() {
             System.arraycopy(stones, 0, taken, 0, LANES_MOST);
-            for (int h = 0; h < houses; h++) {
+            for (int h = 0; h < houses && h < HOUSES_MOST; h++) {
                 int yard = yardOf[h];
                 begunOf[h] = yard;
-                taken[laneOf[h]] |= 1 << yard;
+                if (isLane(laneOf[h])) {
+                    taken[laneOf[h]] |= 1 << yard;
+                }
                 int turn = h;
-                while (turn > 0 && begunOf[turns[turn - 1]] < yard) {
+                while (turn > 0 && begunOf(turns[turn - 1]) < yard) {
                     turns[turn] = turns[turn - 1];
                     turn--;
                 }
                 turns[turn] = h;
             }
+        }
+
+        private int begunOf(int house) {
+            return isHouse(house) ? begunOf[house] : NONE;
         }
 
         private boolean mayRoll(int house) {
@@ -1044,7 +1050,7 @@ public final class HillHouses {
 
         private boolean wasAloneInYard(int house) {
             for (int h = 0; h < houses; h++) {
-                if (h != house && begunOf[h] == begunOf[house]) {
+                if (h != house && begunOf(h) == begunOf(house)) {
                     return false;
                 }
             }
@@ -1052,12 +1058,15 @@ public final class HillHouses {
         }
 
         private boolean roll(int house) {
-            int lane = laneOf[house];
+            int lane = laneOf(house);
+            if (!isHouse(house) || !isLane(lane)) {
+                return false;
+            }
             int steps = kindOf[house] == INN ? 2 : 1;
             boolean isRolled = false;
             for (int step = 0; step < steps; step++) {
                 int yard = yardOf[house];
-                if (yard + 1 < deep && (taken[lane] >> yard + 1 & 1) == 0) {
+                if (isYard(yard + 1) && (taken[lane] >> yard + 1 & 1) == 0) {
                     taken[lane] ^= 3 << yard;
                     yardOf[house] = yard + 1;
                     isRolled = true;

@@ -1,23 +1,90 @@
 import java.nio.charset.StandardCharsets;
+import java.util.function.IntUnaryOperator;
 
-/** What the tests share: counting answers that are not due, and telling a hill by its text. */
+/** What the tests share: counting answers that are not due, numbers far outside, and telling a hill by its text. */
 final class Check {
     static final int NONE = -1000000, BAD = -1000001, STATE = -1000002, FULL = -1000003;
     static final int NULL = -1000011, PLACE = -1000012, KIND = -1000013, SIZE = -1000014, STORE = -1000015;
 
+    static final int LEAST = Integer.MIN_VALUE, MOST = Integer.MAX_VALUE;
+    static final int[] NO_ROW = {-1, 8, LEAST, MOST};
+
     private static int right;
     private static int wrong;
+    private static String sentence = "";
+    private static int rightAtSentence = -1;
 
     private Check() {
+    }
+
+    /** What follows holds the class to this sentence of a part ("Terms", "Promise 7") of the document. */
+    static void says(String part, String quote) {
+        sentenceEnds();
+        Document.quote(part, quote);
+        sentence = "[" + part + ": '" + quote + "'] ";
+        rightAtSentence = right + wrong;
+    }
+
+    static void sentenceEnds() {
+        if (right + wrong == rightAtSentence) {
+            fail("no call holds the class to this");
+        }
+        sentence = "";
+        rightAtSentence = -1;
     }
 
     static void due(String call, long got, long want) {
         if (got == want) {
             right++;
         } else {
-            wrong++;
-            System.out.println("  " + call + " answered " + got + ", due is " + want);
+            fail(call + " answered " + got + ", due is " + want);
         }
+    }
+
+    static void alike(String call, String got, String want) {
+        if (got.equals(want)) {
+            right++;
+        } else {
+            fail(call + " left\n    " + got + ", due is\n    " + want);
+        }
+    }
+
+    static void fail(String what) {
+        wrong++;
+        System.out.println("  " + sentence + what);
+    }
+
+    /** Each call of a count that is below 0, or above the most, is BAD. */
+    static void badOutside(String call, int most, IntUnaryOperator answer) {
+        badBelow(call, 0, answer);
+        badAbove(call, most, answer);
+    }
+
+    static void badBelow(String call, int least, IntUnaryOperator answer) {
+        due(call + " of " + (least - 1), answer.applyAsInt(least - 1), BAD);
+        due(call + " of the least int", answer.applyAsInt(LEAST), BAD);
+    }
+
+    static void badAbove(String call, int most, IntUnaryOperator answer) {
+        due(call + " of " + (most + 1), answer.applyAsInt(most + 1), BAD);
+        due(call + " of 32 + " + most, answer.applyAsInt(32 + most), BAD);
+        due(call + " of the most int", answer.applyAsInt(MOST), BAD);
+    }
+
+    /** A text without a fault: so many houses. */
+    static void reads(String text, int houses) {
+        HillHouses x = new HillHouses();
+        due("hill '" + text + "'", read(x, text), houses);
+        due("fault after '" + text + "'", x.fault(), 0);
+    }
+
+    /** A text with a fault: its place and number; there is no hill by it. */
+    static void faults(String text, int place, int fault) {
+        HillHouses x = new HillHouses();
+        due("hill '" + text + "'", read(x, text), -1000100 - place);
+        due("fault of '" + text + "'", x.fault(), fault);
+        due("tape after '" + text + "'", x.count(6), 0);
+        due("no hill after '" + text + "'", x.winter(), STATE);
     }
 
     static void feed(HillHouses x, String text) {

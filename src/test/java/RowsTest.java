@@ -1,7 +1,5 @@
 /** Promises 1 to 5, and what of 29 and 30 is of rows. */
 public final class RowsTest {
-    private static final int[] NO_ROW = {-1, 8, Integer.MIN_VALUE, Integer.MAX_VALUE};
-
     public static void main(String[] args) {
         newObject();
         rowIsMade();
@@ -46,7 +44,7 @@ public final class RowsTest {
 
     private static void rowIsRefused() {
         HillHouses x = new HillHouses();
-        for (int row : NO_ROW) {
+        for (int row : Check.NO_ROW) {
             Check.due("row of no row", x.row(row, 0, 1), Check.BAD);
             Check.due("row of no row, below none", x.row(row, 0, -1), Check.BAD);
         }
@@ -82,7 +80,7 @@ public final class RowsTest {
 
     private static void setIsRefused() {
         HillHouses x = new HillHouses();
-        for (int row : NO_ROW) {
+        for (int row : Check.NO_ROW) {
             Check.due("set of no row", x.set(row, 0, 0), Check.BAD);
         }
         Check.due("status stays", x.status(), 0);
@@ -127,7 +125,7 @@ public final class RowsTest {
         x.row(0, 0, 3);
         x.row(1, 1, 3);
         x.row(2, 0, 2);
-        for (int row : NO_ROW) {
+        for (int row : Check.NO_ROW) {
             Check.due("copy of no row", x.copy(row, 0, 0, 0, 1), Check.BAD);
             Check.due("copy to no row", x.copy(0, 0, row, 0, 1), Check.BAD);
         }
@@ -160,7 +158,7 @@ public final class RowsTest {
         Check.due("drop(6)", x.drop(6), 2);
         Check.due("status of a drop", x.status(), 0);
         Check.due("count(0)", x.count(0), 0);
-        for (int row : NO_ROW) {
+        for (int row : Check.NO_ROW) {
             Check.due("drop of no row", x.drop(row), Check.BAD);
         }
         x.row(5, 1, 0);

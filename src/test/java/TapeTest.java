@@ -39,19 +39,13 @@ public final class TapeTest {
         Check.due("feed", x.feed(32, 1), 1);
     }
 
-    private static void good(String text, int houses) {
-        HillHouses x = new HillHouses();
-        Check.due("hill '" + text + "'", Check.read(x, text), houses);
-        Check.due("fault after '" + text + "'", x.fault(), 0);
-    }
-
     private static void hillsAreRead() {
-        good("slope 1 4;", 0);
-        good("slope1 4;", 0);
-        good("\n slope\n4 \n 20 \n;\n", 0);
-        good("slope 001 004;stone 000 003;house hut 0 02 020;", 1);
-        good("slope 2 5;stone1 4;stone1 4;house inn0 0 1;house mill1 0 20;", 2);
-        good("slope 4 20;" + "stone 3 19;".repeat(8) + "house church 0 0 1;house inn 1 0 2;house mill 2 0 3;"
+        Check.reads("slope 1 4;", 0);
+        Check.reads("slope1 4;", 0);
+        Check.reads("\n slope\n4 \n 20 \n;\n", 0);
+        Check.reads("slope 001 004;stone 000 003;house hut 0 02 020;", 1);
+        Check.reads("slope 2 5;stone1 4;stone1 4;house inn0 0 1;house mill1 0 20;", 2);
+        Check.reads("slope 4 20;" + "stone 3 19;".repeat(8) + "house church 0 0 1;house inn 1 0 2;house mill 2 0 3;"
             + "house hut 3 0 4;house barn 0 1 5;house hut 0 2 6;", 6);
         HillHouses x = Check.hillOf("slope 3 7;stone 2 6;stone 0 0;stone 2 6;house barn 0 1 20;house church 2 5 1;");
         Check.due("houses", x.count(1), 2);
@@ -67,89 +61,81 @@ public final class TapeTest {
         Check.due("no yard 7", x.yard(0, 7), Check.BAD);
     }
 
-    private static void bad(String text, int place, int fault) {
-        HillHouses x = new HillHouses();
-        Check.due("hill '" + text + "'", Check.read(x, text), -1000100 - place);
-        Check.due("fault of '" + text + "'", x.fault(), fault);
-        Check.due("tape after '" + text + "'", x.count(6), 0);
-        Check.due("no hill after '" + text + "'", x.winter(), Check.STATE);
-    }
-
     private static void tokensThatCannotStand() {
-        bad("", 0, 1);
-        bad("  \n", 3, 1);
-        bad("slop", 0, 1);
-        bad("slopex 1 4;", 0, 1);
-        bad("slopez 1 4;", 0, 1);
-        bad("slopea 1 4;", 0, 1);
-        bad("tlope 1 4;", 0, 1);
-        bad("slope 1 4;atone 0 1;", 10, 1);
-        bad("slope 1 4;mouse hut 0 1 1;", 10, 1);
-        bad("slope 1 4;house nut 0 1 1;", 16, 1);
-        bad("slope 1 4;house ann 0 1 1;", 16, 1);
-        bad("slope 1 4;house huts 0 1 1;", 16, 1);
-        bad("slope 1 4{", 9, 1);
-        bad("slope` 1 4;", 5, 1);
-        bad("slope 1/4;", 7, 1);
-        bad("slope 1:4;", 7, 1);
-        bad("slop e 1 4;", 0, 1);
-        bad(" Slope 1 4;", 1, 1);
-        bad("slope 1 4", 9, 1);
-        bad("slope 1 4 ", 10, 1);
-        bad("slope 1;", 7, 1);
-        bad("slope ;", 6, 1);
-        bad("slope 1 4 4;", 10, 1);
-        bad("slope 1 4;;", 10, 1);
-        bad("slope one 4;", 6, 1);
-        bad("slope 0001 4;", 6, 1);
-        bad("slope 1 0004;", 8, 1);
-        bad("slope 1 12345678;", 8, 1);
-        bad("slope 1 -4;", 8, 1);
-        bad("slope\t1 4;", 5, 1);
-        bad("slope 1 4;\r", 10, 1);
-        bad("slope 1 4;\u00e9", 10, 1);
-        bad("slope 1 4;\u0000", 10, 1);
-        bad("slope 1 4;slope 1 4;", 10, 1);
-        bad("slope 1 4;1", 10, 1);
-        bad("slope 1 4;stone 0 1;house hut 0 0 1;stone 0 2;", 36, 1);
-        bad("slope 1 4;house 0 0 1;", 16, 1);
-        bad("slope 1 4;house house 0 0 1;", 16, 1);
-        bad("slope 1 4;house tent 0 0 1;", 16, 1);
-        bad("slope 1 4;house hut 0 0;", 23, 1);
-        bad("slope 1 4;house hut 0 0 1", 25, 1);
-        bad("slope 1 4;stone 0 1 1;", 20, 1);
-        bad("slope 1 4;stone", 15, 1);
-        bad("slope 1 4;stones 0 1;", 10, 1);
-        bad("slope 9999 99;", 6, 1);
-        bad("slope 1 4;" + "stone 0 0;".repeat(8) + "house hut 0 1 1;stone 0 0;", 106, 1);
+        Check.faults("", 0, 1);
+        Check.faults("  \n", 3, 1);
+        Check.faults("slop", 0, 1);
+        Check.faults("slopex 1 4;", 0, 1);
+        Check.faults("slopez 1 4;", 0, 1);
+        Check.faults("slopea 1 4;", 0, 1);
+        Check.faults("tlope 1 4;", 0, 1);
+        Check.faults("slope 1 4;atone 0 1;", 10, 1);
+        Check.faults("slope 1 4;mouse hut 0 1 1;", 10, 1);
+        Check.faults("slope 1 4;house nut 0 1 1;", 16, 1);
+        Check.faults("slope 1 4;house ann 0 1 1;", 16, 1);
+        Check.faults("slope 1 4;house huts 0 1 1;", 16, 1);
+        Check.faults("slope 1 4{", 9, 1);
+        Check.faults("slope` 1 4;", 5, 1);
+        Check.faults("slope 1/4;", 7, 1);
+        Check.faults("slope 1:4;", 7, 1);
+        Check.faults("slop e 1 4;", 0, 1);
+        Check.faults(" Slope 1 4;", 1, 1);
+        Check.faults("slope 1 4", 9, 1);
+        Check.faults("slope 1 4 ", 10, 1);
+        Check.faults("slope 1;", 7, 1);
+        Check.faults("slope ;", 6, 1);
+        Check.faults("slope 1 4 4;", 10, 1);
+        Check.faults("slope 1 4;;", 10, 1);
+        Check.faults("slope one 4;", 6, 1);
+        Check.faults("slope 0001 4;", 6, 1);
+        Check.faults("slope 1 0004;", 8, 1);
+        Check.faults("slope 1 12345678;", 8, 1);
+        Check.faults("slope 1 -4;", 8, 1);
+        Check.faults("slope\t1 4;", 5, 1);
+        Check.faults("slope 1 4;\r", 10, 1);
+        Check.faults("slope 1 4;\u00e9", 10, 1);
+        Check.faults("slope 1 4;\u0000", 10, 1);
+        Check.faults("slope 1 4;slope 1 4;", 10, 1);
+        Check.faults("slope 1 4;1", 10, 1);
+        Check.faults("slope 1 4;stone 0 1;house hut 0 0 1;stone 0 2;", 36, 1);
+        Check.faults("slope 1 4;house 0 0 1;", 16, 1);
+        Check.faults("slope 1 4;house house 0 0 1;", 16, 1);
+        Check.faults("slope 1 4;house tent 0 0 1;", 16, 1);
+        Check.faults("slope 1 4;house hut 0 0;", 23, 1);
+        Check.faults("slope 1 4;house hut 0 0 1", 25, 1);
+        Check.faults("slope 1 4;stone 0 1 1;", 20, 1);
+        Check.faults("slope 1 4;stone", 15, 1);
+        Check.faults("slope 1 4;stones 0 1;", 10, 1);
+        Check.faults("slope 9999 99;", 6, 1);
+        Check.faults("slope 1 4;" + "stone 0 0;".repeat(8) + "house hut 0 1 1;stone 0 0;", 106, 1);
     }
 
     private static void numbersNotAsTold() {
-        bad("slope 0 4;", 6, 2);
-        bad("slope 5 4;", 6, 2);
-        bad("slope 999 !", 6, 2);
-        bad("slope 1 3;", 8, 2);
-        bad("slope 4 21;", 8, 2);
-        bad("slope 2 4;stone 2 0;", 16, 2);
-        bad("slope 2 4;stone 1 4;", 18, 2);
-        bad("slope 2 4;house hut 2 0 1;", 20, 2);
-        bad("slope 2 4;house hut 0 4 1;", 22, 2);
-        bad("slope 2 4;house hut 0 3 0;", 24, 2);
-        bad("slope 2 4;house hut 0 3 21;", 24, 2);
-        bad("slope 2 4;stone 1 2;house hut 1 2 1;", 32, 2);
-        bad("slope 2 4;stone 1 2;house hut 1 02 99;", 32, 2);
-        bad("slope 2 4;house hut 1 2 1;house inn 1 2 1;", 38, 2);
-        good("slope 2 4;stone 1 2;house hut 0 2 1;house inn 1 1 1;", 2);
+        Check.faults("slope 0 4;", 6, 2);
+        Check.faults("slope 5 4;", 6, 2);
+        Check.faults("slope 999 !", 6, 2);
+        Check.faults("slope 1 3;", 8, 2);
+        Check.faults("slope 4 21;", 8, 2);
+        Check.faults("slope 2 4;stone 2 0;", 16, 2);
+        Check.faults("slope 2 4;stone 1 4;", 18, 2);
+        Check.faults("slope 2 4;house hut 2 0 1;", 20, 2);
+        Check.faults("slope 2 4;house hut 0 4 1;", 22, 2);
+        Check.faults("slope 2 4;house hut 0 3 0;", 24, 2);
+        Check.faults("slope 2 4;house hut 0 3 21;", 24, 2);
+        Check.faults("slope 2 4;stone 1 2;house hut 1 2 1;", 32, 2);
+        Check.faults("slope 2 4;stone 1 2;house hut 1 02 99;", 32, 2);
+        Check.faults("slope 2 4;house hut 1 2 1;house inn 1 2 1;", 38, 2);
+        Check.reads("slope 2 4;stone 1 2;house hut 0 2 1;house inn 1 1 1;", 2);
     }
 
     private static void noMoreRoom() {
-        bad("slope 1 4;" + "stone 0 0;".repeat(8) + "stone 0 0;", 90, 3);
-        bad("slope 1 4;" + "stone 0 0;".repeat(8) + " stone ! 9999;", 91, 3);
+        Check.faults("slope 1 4;" + "stone 0 0;".repeat(8) + "stone 0 0;", 90, 3);
+        Check.faults("slope 1 4;" + "stone 0 0;".repeat(8) + " stone ! 9999;", 91, 3);
         String six = "slope 2 9;house hut 0 0 1;house hut 0 1 1;house hut 0 2 1;house hut 0 3 1;house hut 0 4 1;house hut 0 5 1;";
-        good(six, 6);
-        bad(six + "house hut 0 6 1;", six.length(), 3);
-        bad(six + "house", six.length(), 3);
-        bad(six + "stone 0 8;", six.length(), 1);
+        Check.reads(six, 6);
+        Check.faults(six + "house hut 0 6 1;", six.length(), 3);
+        Check.faults(six + "house", six.length(), 3);
+        Check.faults(six + "stone 0 8;", six.length(), 1);
     }
 
     private static void faultChangesNothing() {
