@@ -424,6 +424,15 @@ final class TapeSentences {
         Check.due("bytes", x.count(6), 0);
         Check.due("the tape is empty now", x.hill(), -1000100);
         Check.due("hill", Check.read(x, "slope 1 4;"), 0);
+        // Nothing of an earlier tape is read behind the end: no letter, figure, blank, sign.
+        String[] earlier = {"slopes 1 4;", "slope 1 444;", "slope 1 4   ;", "slope 1 4;"};
+        String[] later = {"slope", "slope 1 4", "slope 1 4", "slope 1 4"};
+        for (int k = 0; k < earlier.length; k++) {
+            Check.read(x, earlier[k]);
+            Check.due("'" + later[k] + "' behind '" + earlier[k] + "'", Check.read(x, later[k]),
+                -1000100 - later[k].length());
+            Check.due("its fault", x.fault(), 1);
+        }
         Check.says("Promise 7", "-1000100 less the place of a FAULT:");
         Check.due("at 0", Check.read(x, "!"), -1000100);
         Check.due("at 1", Check.read(x, " !"), -1000101);
