@@ -1,4 +1,5 @@
 import java.io.IOException;
+import java.io.UncheckedIOException;
 import java.lang.reflect.Constructor;
 import java.lang.reflect.Field;
 import java.lang.reflect.Member;
@@ -16,15 +17,17 @@ import java.util.regex.Pattern;
 /** The public face, and as much of ../shared/LANGUAGE.md as can be told from the class and its text. */
 public final class FaceTest {
     private static final Path SOURCE = Path.of("src/main/java/HillHouses.java");
-    private static final List<String> FACE = List.of("row(III)", "set(III)", "copy(IIIII)", "drop(I)", "feed(JI)",
-        "hill()", "fault()", "winter()", "haul(II)", "chock(II)", "chocks(III)", "undo()", "house(II)", "yard(II)",
-        "ahead(III)", "stream(I)", "beside(III)", "meet(IIII)", "street(I)", "stood(III)", "stolen(I)", "image(I)",
-        "restore(I)", "kind(I)", "as(II)", "ask(II)", "trace(I)", "count(I)", "status()");
+    private static final Path DOCUMENT = Path.of("../shared/DOC.md");
+    private static final Pattern CALL = Pattern.compile("\\bint (\\w+)\\(([^)]*)\\)");
+    private static final Pattern CONSTANT = Pattern.compile("\\b([A-Z]+) = (-\\d+)");
+    private static final String FACE = face();
+    private static final List<String> CALLS = callsIn(FACE);
     private static final String NOT_OURS = "\\b(throw|throws|try|catch|finally|synchronized|assert|volatile|native|var|"
         + "yield|System\\.(?!arraycopy)\\w+|Thread|Random|Object|Class|float|double|equals|hashCode|toString|"
         + "\\w+Exact)\\b|->|::|\\.\\.\\.|@";
 
-    public static void main(String[] args) throws IOException {
+    public static void main(String[] args) throws IOException, ReflectiveOperationException {
+        promises();
         constants();
         methods();
         hiddenMembers();
@@ -33,11 +36,50 @@ public final class FaceTest {
         Check.end("FaceTest");
     }
 
-    private static void constants() {
-        Check.due("NONE", HillHouses.NONE, -1000000);
-        Check.due("BAD", HillHouses.BAD, -1000001);
-        Check.due("STATE", HillHouses.STATE, -1000002);
-        Check.due("FULL", HillHouses.FULL, -1000003);
+    private static List<String> document() {
+        try {
+            return Files.readAllLines(DOCUMENT, StandardCharsets.UTF_8);
+        } catch (IOException e) {
+            throw new UncheckedIOException(e);
+        }
+    }
+
+    /** What the document tells of the public face, from its first line to its last. */
+    private static String face() {
+        List<String> lines = document();
+        int from = lines.indexOf("public final class HillHouses {");
+        return String.join("\n", lines.subList(from, from + lines.subList(from, lines.size()).indexOf("}")));
+    }
+
+    /** The calls that are told in a text, each with the types that it takes: feed(JI). */
+    private static List<String> callsIn(String text) {
+        List<String> calls = new ArrayList<>();
+        Matcher m = CALL.matcher(text);
+        while (m.find()) {
+            String types = m.group(2).replaceAll("int \\w+", "I").replaceAll("long \\w+", "J").replace(", ", "");
+            calls.add(m.group(1) + "(" + types + ")");
+        }
+        return calls;
+    }
+
+    private static void promises() {
+        List<String> told = new ArrayList<>();
+        for (String line : document()) {
+            if (line.startsWith("`int ")) {
+                told.addAll(callsIn(line.substring(0, line.indexOf("`:"))));
+            }
+        }
+        Check.due("calls of the face", CALLS.size(), 29);
+        is("the promises tell the calls of the face: " + told, told.equals(CALLS));
+    }
+
+    private static void constants() throws ReflectiveOperationException {
+        Matcher m = CONSTANT.matcher(FACE);
+        int told = 0;
+        for (; m.find(); told++) {
+            Check.due(m.group(1), HillHouses.class.getField(m.group(1)).getInt(null), Integer.parseInt(m.group(2)));
+        }
+        Check.due("public constants", HillHouses.class.getFields().length, told);
     }
 
     private static void is(String what, boolean holds) {
@@ -57,7 +99,7 @@ public final class FaceTest {
                 is(m + " answers an int", m.getReturnType() == int.class && m.getModifiers() == Modifier.PUBLIC);
             }
         }
-        is("the methods of the face: " + found, found.equals(new TreeSet<>(FACE)));
+        is("the methods of the face: " + found, found.equals(new TreeSet<>(CALLS)));
         Constructor<?>[] made = HillHouses.class.getDeclaredConstructors();
         is("one constructor", made.length == 1 && made[0].getParameterCount() == 0
             && made[0].getModifiers() == Modifier.PUBLIC);
@@ -69,19 +111,16 @@ public final class FaceTest {
 
     private static void hiddenMembers() {
         TreeSet<String> publicNames = new TreeSet<>();
-        for (String method : FACE) {
+        for (String method : CALLS) {
             publicNames.add(method.substring(0, method.indexOf('(')));
         }
         for (Method m : HillHouses.class.getDeclaredMethods()) {
             is(m + " is public or private", isHiddenOrFace(m));
             is(m + " bears no public name", Modifier.isPublic(m.getModifiers()) || !publicNames.contains(m.getName()));
         }
-        int constants = 0;
         for (Field f : HillHouses.class.getDeclaredFields()) {
             is(f + " is public or private", isHiddenOrFace(f));
-            constants += Modifier.isPublic(f.getModifiers()) ? 1 : 0;
         }
-        Check.due("public constants", constants, 4);
         for (Class<?> inside : HillHouses.class.getDeclaredClasses()) {
             for (Method m : inside.getDeclaredMethods()) {
                 is(m + " bears no public name", !publicNames.contains(m.getName()));
